@@ -16,6 +16,8 @@ public final class ActsTest {
         twentyCanBeUndone();
         imagesAreMade();
         imagesKeepAll();
+        imagesKeepWhatCanBeUndone();
+        daysAreCountedTo999();
         Due.end("ActsTest");
     }
 
@@ -304,5 +306,56 @@ public final class ActsTest {
         x.note(-1, 0);
         x.note(1, 1);
         Due.is("40: the text as told", x.ruled(1), 0);
+    }
+
+    private static void imagesKeepWhatCanBeUndone() {
+        DoorLetters x = Due.told(THREE);
+        x.begin(2);
+        x.live(0, 1);
+        x.begin(1);
+        x.note(3, 1);
+        x.image(0);
+        x.undo();
+        x.undo();
+        x.undo();
+        x.live(1, 0);
+        x.begin(1);
+        x.begin(0);
+        x.note(-1, 0);
+        x.note(4, 1);
+        x.image(1);
+        Due.is("40: back", x.back(0), 0);
+        Due.is("40: rounds BEGIN", x.count(6), 1);
+        Due.is("40: UNDONE from there", x.undo(), 2);
+        Due.is("40: rounds BEGIN", x.count(6), 2);
+        Due.is("40: UNDONE from there", x.undo(), 1);
+        Due.is("40: LIVED", x.person(0, 0) * 10 + x.person(1, 0), 13);
+        Due.is("40: UNDONE from there", x.undo(), 0);
+        Due.is("40: rounds BEGIN", x.count(6), 0);
+        // DAY 3 is as DAY 0, PERSON 1's; DAY 4 is PERSON 2's
+        Due.is("40: the NOTE of DAY 3", x.ruled(0), 1);
+        Due.is("40: back", x.back(1), 0);
+        Due.is("40: the NOTE of DAY 4", x.ruled(0), 0);
+        Due.is("40: LIVED", x.person(0, 0) * 10 + x.person(1, 0), 12);
+    }
+
+    /** More calls than an object promises: it is the DAYS that count here. */
+    private static void daysAreCountedTo999() {
+        DoorLetters x = Due.told("village 1;person 1 0 0;letter 1;letter 0");
+        for (int i = 0; i < 998; i++) {
+            x.day();
+        }
+        Due.is("9: DAY 998", x.day(), 0);
+        Due.is("9: DAY 999", x.count(5), 999);
+        Due.is("9: at DAY 999", x.day(), -1);
+        Due.is("9: nothing happens", x.count(5) * 1000 + x.person(0, 3), 999999);
+        Due.is("9: nothing happens", x.count(11), 20);
+        Due.is("24: 999 at most", x.ahead(0, 100, 0), 999);
+        Due.is("25: beyond 999", x.first(0), 999);
+        Due.is("26: beyond 999", x.nobody(), -2);
+        x.live(0, 0);
+        // on DAY 999 the LETTER that CLAIMS nothing, on DAY 1000 the other one
+        Due.is("25: beyond 999", x.first(0), 999);
+        Due.is("26: beyond 999", x.nobody(), 1000);
     }
 }

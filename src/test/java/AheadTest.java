@@ -4,6 +4,7 @@ public final class AheadTest {
 
     public static void main(String[] args) {
         ahead();
+        aheadWithoutARule();
         first();
         nobody();
         often();
@@ -45,6 +46,22 @@ public final class AheadTest {
         Due.is("24: 101", x.ahead(0, 101, 2), -1);
         Due.is("24: without a VILLAGE", new DoorLetters().ahead(0, 1, 2), -1);
         Due.is("24: without PEOPLE", Due.told("village 1;letter 0").ahead(0, 1, 2), 1);
+    }
+
+    private static void aheadWithoutARule() {
+        DoorLetters x = Due.told("village 2;person 1 0 0;person 3 0 0;letter 1;letter 3;letter 2");
+        Due.is("24: who LACKS nothing", x.ahead(0, 3, 0), 1);
+        Due.is("24: who LACKS nothing", x.ahead(1, 3, 0), 2);
+        Due.is("25: the first they fit", x.first(1), 1);
+        x.begin(1);
+        Due.is("24: from where rounds BEGIN", x.ahead(0, 3, 0), 0);
+        Due.is("24: from where rounds BEGIN", x.ahead(1, 3, 0), 3);
+        Due.is("25: from where rounds BEGIN", x.first(1), 0);
+        Due.is("25: from where rounds BEGIN", x.first(0), -2);
+        Due.is("27: from where rounds BEGIN", x.often(3, 1), 3);
+        x.live(1, 1);
+        Due.is("26: LIVED", x.nobody(), 1);
+        Due.is("24: LIVED", x.ahead(0, 100, 2), 6);
     }
 
     private static void first() {

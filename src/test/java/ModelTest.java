@@ -151,12 +151,15 @@ public final class ModelTest {
     }
 
     private void faults() {
+        DoorLetters y = new DoorLetters();
         for (int i = 0; i < 40; i++) {
             String village = villageText(below(9), below(12), 1 + below(8));
             tellVillage(once(4) ? village : spoiled(village));
-            m.rules.clear();
+            if (m.rules.size() == 6) {
+                m.rules.clear();
+                y = new DoorLetters();
+            }
             String rule = ruleText();
-            DoorLetters y = new DoorLetters();
             String text = once(4) ? rule : spoiled(rule);
             String fitting = text.length() > 400 ? text.substring(0, 400) : text;
             Due.tape(y, fitting);

@@ -209,6 +209,13 @@ public final class NotesTest {
         // DAY 0: 0 1 - 2 0 0, and 0 without: four 0. DAY 1: 1 1 - 2 0 -, 0: two each but one 2
         Due.is("35: the least of the best", x.look(0), 1);
         Due.is("35: two alike at most", x.look(1), 2);
+        DoorLetters y = Due.told("village 1;person 1 0 0;letter 1", "claim 1", "claim 1", "claim 0 if day = 3;claim 1",
+            "claim 0 if day = 3;claim 1", "claim 0 if day = 3;claim 1", "claim 0 if day = 7;claim 1");
+        // without the last one DAY 3 parts three and three
+        Due.is("35: four and three", y.look(0), 3);
+        Due.is("35: four and three", y.look(1), 4);
+        y.note(7, 0);
+        Due.is("35: three and three", y.look(1), 3);
         x.note(1, 1);
         // 0 and 1 are left: unlike on DAY 0
         Due.is("35: two left", x.look(0), 0);

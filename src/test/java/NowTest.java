@@ -52,6 +52,8 @@ public final class NowTest {
         Due.is("16: as all is now", x.whose(1, 0), 0);
         Due.is("16: none LACKS nothing", x.whose(1, 1), 1);
         Due.is("16: none LACKS nothing", x.whose(2, 1), 0);
+        Due.is("16: far BEYOND is nearer than one LACKED",
+            Due.told("village 8;person 0 0 0;person 255 0 0;letter 1").whose(0, 1), 1);
         for (int wrong : WRONG) {
             Due.is("16: LETTER " + wrong, x.whose(wrong, 0), -1);
             Due.is("16: what " + wrong, x.whose(0, wrong), -1);
@@ -87,6 +89,9 @@ public final class NowTest {
         for (int wrong : WRONG) {
             Due.is("17: a set " + wrong, x.ask(wrong, 0), -3);
         }
+        DoorLetters w = Due.told("village 2;person 0 0 0;person 1 0 0;person 2 0 0;person 3 0 0");
+        Due.is("17: MATTER 0 as the second", w.ask(15, 0), 2);
+        Due.is("17: either could begin", w.ask(15, 1), 0);
         // one question each, whatever is answered
         DoorLetters y = Due.told("village 7;person 1 0 0;person 2 0 0;person 4 0 0;person 8 0 0;person 16 0 0;person 32 0 0;person 64 0 0");
         Due.is("17: one by one", y.ask(127, 0), 6);
@@ -299,6 +304,11 @@ public final class NowTest {
     private static void pence() {
         DoorLetters x = Due.told("village 1;person 1 0 0;person 1 0 0;person 1 0 0;letter 1", "claim 0");
         Due.is("32: nobody HAS any", x.pence(9999, 0), 0);
+        x.day();
+        x.give(0, 1);
+        Due.is("32: all to one", x.pence(9999, 1), 9999);
+        Due.is("32: nothing to others", x.pence(9999, 0), 0);
+        x.undo();
         int[] gifts = {0, 1, 1, 2, 2, 2};
         for (int person : gifts) {
             x.day();

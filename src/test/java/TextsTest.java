@@ -4,6 +4,7 @@ public final class TextsTest {
         villageFaults();
         ruleFaults();
         ruleLimits();
+        textsAreApart();
         words();
         sums();
         tests();
@@ -79,6 +80,12 @@ public final class TextsTest {
         ruleFault(" |", 0);
         ruleFault("|village 1", 0);
         ruleFault("|claimfits", 0);
+        ruleFault("|claimz 1", 0);
+        ruleFault("|claima 1", 0);
+        ruleFault("claim|` 1", 0);
+        ruleFault("claim|{ 1", 0);
+        ruleFault("claim 1|:", 0);
+        ruleFault("claim 1/|", 0);
         ruleFault("|if 1=1", 0);
         ruleFault("claim |if 1=1", 0);
         ruleFault("claim|", 0);
@@ -173,6 +180,25 @@ public final class TextsTest {
         ruleFault("claim 1;".repeat(12) + "|", 0);
     }
 
+    /** What a faulty text left open doesn't reach the next one. */
+    private static void textsAreApart() {
+        DoorLetters x = new DoorLetters();
+        String deep = "claim 1 if " + "not [".repeat(5) + "1=1" + "]".repeat(5);
+        for (int i = 0; i < 5; i++) {
+            Due.is("5: left open", Due.rule(x, deep.substring(0, deep.length() - 1)), -2 - (1 + 8 * (deep.length() - 1)));
+            Due.is("5: too many parts", Due.rule(x, "claim 1" + "+1".repeat(60)), -2 - (1 + 8 * 126 + 3));
+            Due.is("5: too many CLAUSES", Due.rule(x, "claim 1;".repeat(13)), -2 - (1 + 8 * 96 + 4));
+            Due.is("5: an operation waits", Due.rule(x, "claim 1 if 1=1 or 1=1 and not 1+"), -2 - (1 + 8 * 32));
+            Due.is("5: as deep as can be", Due.rule(x, deep), i);
+        }
+        Due.village(x, "village 1;person 1 0 0;person 1 0 0;letter 1");
+        x.force(4);
+        Due.is("5: not five times", x.day(), -2);
+        Due.is("4: a FAULT", Due.village(x, "village 1;person 1 0 0;letter 1;letter 1;x"), -2 - (1 + 8 * 41));
+        Due.is("4: none of it stays", Due.village(x, "village 1"), 0);
+        Due.is("4: none of it stays", x.count(2), 0);
+    }
+
     /** Whether PERSON 1, who reads LETTER 1 on DAY 5 as the second one, and HAS 3, CLAIMS it by this TEST. */
     private static boolean holds(String test) {
         DoorLetters x = Due.told("village 6;person 0 0 0;person 37 7 2;letter 63;letter 11", "claim 1 if person=1 and day<3;claim 0",
@@ -245,6 +271,7 @@ public final class TextsTest {
         so("1 < 2");
         notSo("2 < 2");
         so("2 <= 2");
+        so("1 <= 2");
         notSo("3 <= 2");
         so("2 = 2");
         notSo("3 = 2");
@@ -277,6 +304,8 @@ public final class TextsTest {
         Due.is("5: one without a TEST ends it", Due.told(people, "claim 0;claim 1").day(), -2);
         Due.is("5: 0 without", Due.told(people, "claim 1 if person = 9").day(), -2);
         Due.is("5: the SUM of that CLAUSE", Due.told(people, "claim 5 if 1=2; claim person-1 if 1=1; claim 9").day(), 2);
+        Due.is("5: not at the top", Due.told(people, "claim 1 if not person < 2").day(), 2);
+        Due.is("5: not at the top", Due.told(people, "claim 1 if not person >= 0").day(), -2);
         Due.is("5: the twelfth CLAUSE", Due.told(people, "claim 1 if 1=2;".repeat(11) + "claim 1").day(), 0);
     }
 }
