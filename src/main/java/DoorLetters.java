@@ -501,8 +501,15 @@ public final class DoorLetters {
             kind = byteAt(from);
             to = from < length ? from + 1 : length;
             if (isDigit(kind)) {
+                number = kind - '0';
                 kind = NUMBER;
-                readDigits();
+                while (to < length && isDigit(byteAt(to))) {
+                    // digits too many are a FAULT, whatever they come to
+                    if (to - from < MOST_DIGITS) {
+                        number = number * 10 + byteAt(to) - '0';
+                    }
+                    to++;
+                }
             } else if (isSmallLetter(kind)) {
                 kind = WORD;
                 while (to < length && isSmallLetter(byteAt(to))) {
@@ -510,16 +517,6 @@ public final class DoorLetters {
                 }
             } else if ((kind == '<' || kind == '>') && byteAt(to) == '=') {
                 kind += 256;
-                to++;
-            }
-        }
-
-        private void readDigits() {
-            number = byteAt(from) - '0';
-            while (to < length && isDigit(byteAt(to))) {
-                if (to - from < MOST_DIGITS) {
-                    number = number * 10 + byteAt(to) - '0';
-                }
                 to++;
             }
         }
@@ -797,7 +794,20 @@ public final class DoorLetters {
             due = CLAUSE_DUE;
             text.open();
             for (int i = 0; i <= MOST_BYTES && due != NOTHING_DUE && text.fault == 0; i++) {
-                readToken(text);
+                switch (due) {
+                    case CLAUSE_DUE:
+                        readClaim(text);
+                        break;
+                    case FACT_DUE:
+                        readFactBegin(text);
+                        break;
+                    case VALUE_DUE:
+                        readValue(text);
+                        break;
+                    default:
+                        readJoint(text);
+                        break;
+                }
                 text.next();
             }
             return text.fault;
@@ -805,23 +815,6 @@ public final class DoorLetters {
 
         Rule made() {
             return new Rule(Arrays.copyOf(code, size));
-        }
-
-        private void readToken(Text text) {
-            switch (due) {
-                case CLAUSE_DUE:
-                    readClaim(text);
-                    break;
-                case FACT_DUE:
-                    readFactBegin(text);
-                    break;
-                case VALUE_DUE:
-                    readValue(text);
-                    break;
-                default:
-                    readJoint(text);
-                    break;
-            }
         }
 
         private void readClaim(Text text) {
