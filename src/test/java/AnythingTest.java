@@ -8,7 +8,8 @@ import java.util.Random;
 
 /** Whatever is called with whatever numbers, in whatever state: nothing throws, and the same calls answer the same. */
 public final class AnythingTest {
-    private static final int[] EDGES = {Integer.MIN_VALUE, Integer.MIN_VALUE + 1, -400, -33, -32, -31, -8, -3, -2, -1, 0, 1, 2, 3, 4,
+    private static final int[] EDGES = {Integer.MIN_VALUE, Integer.MIN_VALUE + 1, -400, -33, -32, -31, -8, -3, -2, -1, 0, 1,
+        2, 3, 4,
         5, 6, 7, 8, 9, 10, 11, 13, 14, 15, 31, 32, 33, 40, 41, 59, 60, 61, 63, 64, 99, 100, 101, 127, 128, 255, 256, 399, 400, 401,
         511, 512, 998, 999, 1000, 1023, 1024, 9999, 10000, 65535, 65536, Integer.MAX_VALUE - 1, Integer.MAX_VALUE};
     private static final String[] TEXTS = {

@@ -5,8 +5,19 @@ import java.util.Arrays;
 final class Due {
     private static int wrong = 0;
     private static int looked = 0;
+    private static int lookedAtSentence = 0;
+    private static int sentences = 0;
+    private static String sentence = "";
 
     private Due() {
+    }
+
+    /** From here on all is due by these words of the document, told for this promise. */
+    static void sentence(String promise, String words) {
+        holds("something is looked at", sentences == 0 || looked > lookedAtSentence);
+        sentence = promise + ": \"" + words + "\": ";
+        sentences++;
+        lookedAtSentence = looked;
     }
 
     static void is(String what, long got, long due) {
@@ -14,7 +25,7 @@ final class Due {
         if (got != due) {
             wrong++;
             if (wrong <= 40) {
-                System.out.println(what + " answered " + got + ", due is " + due);
+                System.out.println(sentence + what + " answered " + got + ", due is " + due);
             }
         }
     }
@@ -28,7 +39,8 @@ final class Due {
     }
 
     static void end(String test) {
-        System.out.println(test + ": " + looked + " answers, " + wrong + " not as due");
+        String by = sentences > 0 ? " by " + sentences + " sentences" : "";
+        System.out.println(test + ": " + looked + " answers" + by + ", " + wrong + " not as due");
         if (wrong != 0) {
             System.exit(1);
         }
@@ -64,6 +76,42 @@ final class Due {
     static int rule(DoorLetters x, String text) {
         tape(x, text);
         return x.rule();
+    }
+
+    /** The text is told up to | alone for the place; 0 to 4 is the kind. */
+    static void villageFault(String text, int kind) {
+        is("VILLAGE " + text, village(new DoorLetters(), text.replace("|", "")), -2 - (1 + 8 * text.indexOf('|') + kind));
+    }
+
+    static void villageStands(String text, int people) {
+        is("VILLAGE " + text, village(new DoorLetters(), text), people);
+    }
+
+    static void ruleFault(String text, int kind) {
+        is("RULE " + text, rule(new DoorLetters(), text.replace("|", "")), -2 - (1 + 8 * text.indexOf('|') + kind));
+    }
+
+    static void ruleStands(String text) {
+        is("RULE " + text, rule(new DoorLetters(), text), 0);
+    }
+
+    /** All that is told of an object by looking at it: what is due to stay where nothing happens. */
+    static String all(DoorLetters x) {
+        StringBuilder all = new StringBuilder();
+        for (int what = 0; what < 14; what++) {
+            all.append(x.count(what)).append(' ');
+        }
+        int people = x.count(1);
+        int letters = x.count(2);
+        for (int person = 0; person < people; person++) {
+            for (int what = 0; what < 4; what++) {
+                all.append(x.person(person, what)).append(' ');
+            }
+        }
+        for (int letter = 0; letter < letters; letter++) {
+            all.append(x.letter(letter, 0)).append(' ').append(x.letter(letter, 1)).append(' ');
+        }
+        return all.toString();
     }
 
     /** A new object with this VILLAGE, and with these RULES, the first of which is IN FORCE if there is one. */

@@ -134,7 +134,8 @@ public final class NotesTest {
         }
         Due.is("30: without a VILLAGE", new DoorLetters().writes(0, 0), -1);
         // SHAME comes of what the LETTER CLAIMS: 1 CLAIMS it on DAY 1 if 0 has 2 SHAME
-        DoorLetters y = Due.told("village 2;person 0 0 0;person 0 0 0;letter 1", "claim 1 if person = 0 and shame < 2;claim person");
+        DoorLetters y = Due.told("village 2;person 0 0 0;person 0 0 0;letter 1",
+            "claim 1 if person = 0 and shame < 2;claim person");
         y.note(1, 1);
         Due.is("30: by how it goes on", y.writes(0, 0), 1);
         Due.is("30: by how it goes on", y.writes(0, 1), 3);

@@ -12,172 +12,159 @@ public final class TextsTest {
         Due.end("TextsTest");
     }
 
-    /** The text is told up to | alone for the place; 0 to 4 is the kind. */
-    private static void villageFault(String text, int kind) {
-        Due.is("4: " + text, Due.village(new DoorLetters(), text.replace("|", "")), -2 - (1 + 8 * text.indexOf('|') + kind));
-    }
-
-    private static void ruleFault(String text, int kind) {
-        Due.is("5: " + text, Due.rule(new DoorLetters(), text.replace("|", "")), -2 - (1 + 8 * text.indexOf('|') + kind));
-    }
-
-    private static void ruleStands(String text) {
-        Due.is("5: " + text, Due.rule(new DoorLetters(), text), 0);
-    }
-
     private static void villageFaults() {
-        villageFault("|", 0);
-        villageFault("   |", 0);
-        villageFault("|;", 0);
-        villageFault("|claim 1", 0);
-        villageFault("|villages 2", 0);
-        villageFault("|Village 2", 0);
-        villageFault("|villag", 0);
-        villageFault("|2", 0);
-        villageFault("village|", 0);
-        villageFault("village  |", 0);
-        villageFault("village |x", 0);
-        villageFault("village |-1", 0);
-        villageFault("village 2 |2", 0);
-        villageFault("village 2|.", 0);
-        villageFault("village 2|\u0000", 0);
-        villageFault("village 2|\u00ff", 0);
-        villageFault("village 2|\t", 0);
-        villageFault("village 2;|", 0);
-        villageFault("village 2; |", 0);
-        villageFault("village 2;|;", 0);
-        villageFault("village 2 |person 0 0 0", 0);
-        villageFault("village 2;person 0 0|", 0);
-        villageFault("village 2;person 0 |;", 0);
-        villageFault("village 2;person 0 0 0 |0", 0);
-        villageFault("village 2;letter|", 0);
-        villageFault("village 2;letter 1 |1", 0);
-        villageFault("village |0", 1);
-        villageFault("village |9", 1);
-        villageFault("village |99999", 1);
-        villageFault("village |000002", 1);
-        villageFault("village |99999999999999999999", 1);
-        villageFault("village 2;person |4 0 0", 1);
-        villageFault("village 8;person |256 0 0", 1);
-        villageFault("village 2;person 3 |10 0", 1);
-        villageFault("village 2;person 3 9 |10", 1);
-        villageFault("village 2;letter |4", 1);
-        villageFault("village 8;letter |256", 1);
-        villageFault("village 2;person |4 0 10", 1);
-        villageFault("village 2;letter |000000;x", 1);
-        villageFault("|person 0 0 0", 4);
-        villageFault(" |letter 0;village 2", 4);
-        villageFault("village 2;|village 2", 4);
-        villageFault("village 2;letter 1; |village", 4);
-        villageFault("village 1" + ";person 0 0 0".repeat(7) + ";|person 0 0 0", 4);
-        villageFault("village 1" + ";person 0 0 0".repeat(7) + ";|person 9 9 99", 4);
-        villageFault("village 1" + ";letter 0".repeat(10) + ";|letter 0", 4);
-        villageFault("village 1" + ";letter 0".repeat(10) + ";|letters 0", 0);
+        Due.villageFault("|", 0);
+        Due.villageFault("   |", 0);
+        Due.villageFault("|;", 0);
+        Due.villageFault("|claim 1", 0);
+        Due.villageFault("|villages 2", 0);
+        Due.villageFault("|Village 2", 0);
+        Due.villageFault("|villag", 0);
+        Due.villageFault("|2", 0);
+        Due.villageFault("village|", 0);
+        Due.villageFault("village  |", 0);
+        Due.villageFault("village |x", 0);
+        Due.villageFault("village |-1", 0);
+        Due.villageFault("village 2 |2", 0);
+        Due.villageFault("village 2|.", 0);
+        Due.villageFault("village 2|\u0000", 0);
+        Due.villageFault("village 2|\u00ff", 0);
+        Due.villageFault("village 2|\t", 0);
+        Due.villageFault("village 2;|", 0);
+        Due.villageFault("village 2; |", 0);
+        Due.villageFault("village 2;|;", 0);
+        Due.villageFault("village 2 |person 0 0 0", 0);
+        Due.villageFault("village 2;person 0 0|", 0);
+        Due.villageFault("village 2;person 0 |;", 0);
+        Due.villageFault("village 2;person 0 0 0 |0", 0);
+        Due.villageFault("village 2;letter|", 0);
+        Due.villageFault("village 2;letter 1 |1", 0);
+        Due.villageFault("village |0", 1);
+        Due.villageFault("village |9", 1);
+        Due.villageFault("village |99999", 1);
+        Due.villageFault("village |000002", 1);
+        Due.villageFault("village |99999999999999999999", 1);
+        Due.villageFault("village 2;person |4 0 0", 1);
+        Due.villageFault("village 8;person |256 0 0", 1);
+        Due.villageFault("village 2;person 3 |10 0", 1);
+        Due.villageFault("village 2;person 3 9 |10", 1);
+        Due.villageFault("village 2;letter |4", 1);
+        Due.villageFault("village 8;letter |256", 1);
+        Due.villageFault("village 2;person |4 0 10", 1);
+        Due.villageFault("village 2;letter |000000;x", 1);
+        Due.villageFault("|person 0 0 0", 4);
+        Due.villageFault(" |letter 0;village 2", 4);
+        Due.villageFault("village 2;|village 2", 4);
+        Due.villageFault("village 2;letter 1; |village", 4);
+        Due.villageFault("village 1" + ";person 0 0 0".repeat(7) + ";|person 0 0 0", 4);
+        Due.villageFault("village 1" + ";person 0 0 0".repeat(7) + ";|person 9 9 99", 4);
+        Due.villageFault("village 1" + ";letter 0".repeat(10) + ";|letter 0", 4);
+        Due.villageFault("village 1" + ";letter 0".repeat(10) + ";|letters 0", 0);
     }
 
     private static void ruleFaults() {
-        ruleFault("|", 0);
-        ruleFault(" |", 0);
-        ruleFault("|village 1", 0);
-        ruleFault("|claimfits", 0);
-        ruleFault("|claimz 1", 0);
-        ruleFault("|claima 1", 0);
-        ruleFault("claim|` 1", 0);
-        ruleFault("claim|{ 1", 0);
-        ruleFault("claim 1|:", 0);
-        ruleFault("claim 1/|", 0);
-        ruleFault("|if 1=1", 0);
-        ruleFault("claim |if 1=1", 0);
-        ruleFault("claim|", 0);
-        ruleFault("claim 1 +|", 0);
-        ruleFault("claim 1 +|+1", 0);
-        ruleFault("claim |-1", 0);
-        ruleFault("claim |[1]", 0);
-        ruleFault("claim |not", 0);
-        ruleFault("claim |lack", 0);
-        ruleFault("claim |claims", 0);
-        ruleFault("claim fits|1", 0);
-        ruleFault("claim 1 |2", 0);
-        ruleFault("claim 1 |fits", 0);
-        ruleFault("claim 1 |< 2", 0);
-        ruleFault("claim 1 |and 2", 0);
-        ruleFault("claim 1|]", 0);
-        ruleFault("claim 1;|", 0);
-        ruleFault("claim 1;|1", 0);
-        ruleFault("claim 1 if|", 0);
-        ruleFault("claim 1 |iff 1=1", 0);
-        ruleFault("claim 1 if 1|", 0);
-        ruleFault("claim 1 if 1 |;", 0);
-        ruleFault("claim 1 if 1 |and 1=1", 0);
-        ruleFault("claim 1 if 1 |if 1=1", 0);
-        ruleFault("claim 1 if 1=|", 0);
-        ruleFault("claim 1 if 1=|=1", 0);
-        ruleFault("claim 1 if 1<|>1", 0);
-        ruleFault("claim 1 if 1< |=1", 0);
-        ruleFault("claim 1 if 1=|<1", 0);
-        ruleFault("claim 1 if 1<=|=1", 0);
-        ruleFault("claim 1 if 1=1|=1", 0);
-        ruleFault("claim 1 if 1=|[1]", 0);
-        ruleFault("claim 1 if 1=|not 1", 0);
-        ruleFault("claim 1 if 1=1 and|", 0);
-        ruleFault("claim 1 if 1=1 or |and 1=1", 0);
-        ruleFault("claim 1 if 1=1 |not 1=1", 0);
-        ruleFault("claim 1 if 1=1 |if 1=1", 0);
-        ruleFault("claim 1 if 1=1|[1=1]", 0);
-        ruleFault("claim 1 if 1=1 |]", 0);
-        ruleFault("claim 1 if not|", 0);
-        ruleFault("claim 1 if |notnot 1=1", 0);
-        ruleFault("claim 1 if [|", 0);
-        ruleFault("claim 1 if [|]", 0);
-        ruleFault("claim 1 if [1|]", 0);
-        ruleFault("claim 1 if [1=1|", 0);
-        ruleFault("claim 1 if [1=1|;claim 1", 0);
-        ruleFault("claim 1 if [1=1]|]", 0);
-        ruleFault("claim 1 if [1=1]|=1", 0);
-        ruleFault("claim 1 if [1=1]|+1", 0);
-        ruleFault("claim 1 if [1=1] |1", 0);
-        ruleStands("claim 1 if [1=1] or1=1");
-        ruleFault("claim 1 if [1=1] |orr 1=1", 0);
-        ruleFault("claim 1 if |(1=1", 0);
-        ruleFault("claim 1|,claim 1", 0);
-        ruleFault("claim 1|\u00e9", 0);
-        ruleFault("claim |100000", 1);
-        ruleFault("claim |000001", 1);
-        ruleFault("claim 1 if 1 = |999999", 1);
-        ruleFault("claim 1 |100000", 0);
+        Due.ruleFault("|", 0);
+        Due.ruleFault(" |", 0);
+        Due.ruleFault("|village 1", 0);
+        Due.ruleFault("|claimfits", 0);
+        Due.ruleFault("|claimz 1", 0);
+        Due.ruleFault("|claima 1", 0);
+        Due.ruleFault("claim|` 1", 0);
+        Due.ruleFault("claim|{ 1", 0);
+        Due.ruleFault("claim 1|:", 0);
+        Due.ruleFault("claim 1/|", 0);
+        Due.ruleFault("|if 1=1", 0);
+        Due.ruleFault("claim |if 1=1", 0);
+        Due.ruleFault("claim|", 0);
+        Due.ruleFault("claim 1 +|", 0);
+        Due.ruleFault("claim 1 +|+1", 0);
+        Due.ruleFault("claim |-1", 0);
+        Due.ruleFault("claim |[1]", 0);
+        Due.ruleFault("claim |not", 0);
+        Due.ruleFault("claim |lack", 0);
+        Due.ruleFault("claim |claims", 0);
+        Due.ruleFault("claim fits|1", 0);
+        Due.ruleFault("claim 1 |2", 0);
+        Due.ruleFault("claim 1 |fits", 0);
+        Due.ruleFault("claim 1 |< 2", 0);
+        Due.ruleFault("claim 1 |and 2", 0);
+        Due.ruleFault("claim 1|]", 0);
+        Due.ruleFault("claim 1;|", 0);
+        Due.ruleFault("claim 1;|1", 0);
+        Due.ruleFault("claim 1 if|", 0);
+        Due.ruleFault("claim 1 |iff 1=1", 0);
+        Due.ruleFault("claim 1 if 1|", 0);
+        Due.ruleFault("claim 1 if 1 |;", 0);
+        Due.ruleFault("claim 1 if 1 |and 1=1", 0);
+        Due.ruleFault("claim 1 if 1 |if 1=1", 0);
+        Due.ruleFault("claim 1 if 1=|", 0);
+        Due.ruleFault("claim 1 if 1=|=1", 0);
+        Due.ruleFault("claim 1 if 1<|>1", 0);
+        Due.ruleFault("claim 1 if 1< |=1", 0);
+        Due.ruleFault("claim 1 if 1=|<1", 0);
+        Due.ruleFault("claim 1 if 1<=|=1", 0);
+        Due.ruleFault("claim 1 if 1=1|=1", 0);
+        Due.ruleFault("claim 1 if 1=|[1]", 0);
+        Due.ruleFault("claim 1 if 1=|not 1", 0);
+        Due.ruleFault("claim 1 if 1=1 and|", 0);
+        Due.ruleFault("claim 1 if 1=1 or |and 1=1", 0);
+        Due.ruleFault("claim 1 if 1=1 |not 1=1", 0);
+        Due.ruleFault("claim 1 if 1=1 |if 1=1", 0);
+        Due.ruleFault("claim 1 if 1=1|[1=1]", 0);
+        Due.ruleFault("claim 1 if 1=1 |]", 0);
+        Due.ruleFault("claim 1 if not|", 0);
+        Due.ruleFault("claim 1 if |notnot 1=1", 0);
+        Due.ruleFault("claim 1 if [|", 0);
+        Due.ruleFault("claim 1 if [|]", 0);
+        Due.ruleFault("claim 1 if [1|]", 0);
+        Due.ruleFault("claim 1 if [1=1|", 0);
+        Due.ruleFault("claim 1 if [1=1|;claim 1", 0);
+        Due.ruleFault("claim 1 if [1=1]|]", 0);
+        Due.ruleFault("claim 1 if [1=1]|=1", 0);
+        Due.ruleFault("claim 1 if [1=1]|+1", 0);
+        Due.ruleFault("claim 1 if [1=1] |1", 0);
+        Due.ruleStands("claim 1 if [1=1] or1=1");
+        Due.ruleFault("claim 1 if [1=1] |orr 1=1", 0);
+        Due.ruleFault("claim 1 if |(1=1", 0);
+        Due.ruleFault("claim 1|,claim 1", 0);
+        Due.ruleFault("claim 1|\u00e9", 0);
+        Due.ruleFault("claim |100000", 1);
+        Due.ruleFault("claim |000001", 1);
+        Due.ruleFault("claim 1 if 1 = |999999", 1);
+        Due.ruleFault("claim 1 |100000", 0);
     }
 
     private static void ruleLimits() {
         String brackets = "[".repeat(10);
-        ruleFault("claim 1 if " + brackets + "|[1=1" + "]".repeat(11), 2);
-        ruleFault("claim 1 if " + "not ".repeat(10) + "|not 1=1", 2);
-        ruleFault("claim 1 if " + "not ".repeat(10) + "|[1=1]", 2);
-        ruleFault("claim 1 if " + brackets + "|not 1=1", 2);
-        ruleFault("claim 1 if [1=1 and not " + "[".repeat(8) + "1=1 or |[1=1", 2);
-        ruleStands("claim 1 if " + brackets + "1=1" + "]".repeat(10));
-        ruleStands("claim 1 if " + "not ".repeat(10) + "1=1");
-        ruleStands("claim 1 if " + "not ".repeat(10) + "1=1 and " + "not ".repeat(10) + "1=1 or " + brackets + "1=1"
+        Due.ruleFault("claim 1 if " + brackets + "|[1=1" + "]".repeat(11), 2);
+        Due.ruleFault("claim 1 if " + "not ".repeat(10) + "|not 1=1", 2);
+        Due.ruleFault("claim 1 if " + "not ".repeat(10) + "|[1=1]", 2);
+        Due.ruleFault("claim 1 if " + brackets + "|not 1=1", 2);
+        Due.ruleFault("claim 1 if [1=1 and not " + "[".repeat(8) + "1=1 or |[1=1", 2);
+        Due.ruleStands("claim 1 if " + brackets + "1=1" + "]".repeat(10));
+        Due.ruleStands("claim 1 if " + "not ".repeat(10) + "1=1");
+        Due.ruleStands("claim 1 if " + "not ".repeat(10) + "1=1 and " + "not ".repeat(10) + "1=1 or " + brackets + "1=1"
             + "]".repeat(10) + ";claim 1 if " + brackets + "1=1" + "]".repeat(10));
-        ruleStands("claim 1 if not [not 1=1] and " + "not ".repeat(10) + "1=1");
-        ruleStands("claim 1 if [" + "not [".repeat(4) + "not 1=1" + "]".repeat(4) + " and " + "not ".repeat(9) + "1=1]");
-        ruleStands("claim 1" + "*1".repeat(59));
-        ruleFault("claim 1" + "*1".repeat(59) + "-|1", 3);
-        ruleFault("claim 1" + "*1".repeat(59) + "-|lacks", 3);
-        ruleFault("claim 1" + "*1".repeat(59) + "-|lack", 0);
-        ruleFault("claim 1" + "*1".repeat(59) + "-|123456", 1);
-        ruleFault("claim 1" + "*1".repeat(59) + "-|", 0);
+        Due.ruleStands("claim 1 if not [not 1=1] and " + "not ".repeat(10) + "1=1");
+        Due.ruleStands("claim 1 if [" + "not [".repeat(4) + "not 1=1" + "]".repeat(4) + " and " + "not ".repeat(9) + "1=1]");
+        Due.ruleStands("claim 1" + "*1".repeat(59));
+        Due.ruleFault("claim 1" + "*1".repeat(59) + "-|1", 3);
+        Due.ruleFault("claim 1" + "*1".repeat(59) + "-|lacks", 3);
+        Due.ruleFault("claim 1" + "*1".repeat(59) + "-|lack", 0);
+        Due.ruleFault("claim 1" + "*1".repeat(59) + "-|123456", 1);
+        Due.ruleFault("claim 1" + "*1".repeat(59) + "-|", 0);
         // 1 and 19 FACTS of 3 are 58; two more VALUES, and the SIGN is one too many
         String long58 = "claim 1 if 1=1" + " and 1=1".repeat(18);
-        ruleStands(long58);
-        ruleFault(long58 + " and 1+1 |<= 1", 3);
-        ruleFault(long58 + " and 1 = |1", 3);
-        ruleFault(long58 + ";claim 1;claim 1;claim |1", 3);
-        ruleFault(long58 + ";claim 1;claim 1 if |1 = 1", 3);
-        ruleStands("claim 1;".repeat(11) + "claim 1");
-        ruleFault("claim 1;".repeat(12) + "|claim 1", 4);
-        ruleFault("claim 1;".repeat(12) + "|claim", 4);
-        ruleFault("claim 1;".repeat(12) + "|claims", 0);
-        ruleFault("claim 1;".repeat(12) + "|", 0);
+        Due.ruleStands(long58);
+        Due.ruleFault(long58 + " and 1+1 |<= 1", 3);
+        Due.ruleFault(long58 + " and 1 = |1", 3);
+        Due.ruleFault(long58 + ";claim 1;claim 1;claim |1", 3);
+        Due.ruleFault(long58 + ";claim 1;claim 1 if |1 = 1", 3);
+        Due.ruleStands("claim 1;".repeat(11) + "claim 1");
+        Due.ruleFault("claim 1;".repeat(12) + "|claim 1", 4);
+        Due.ruleFault("claim 1;".repeat(12) + "|claim", 4);
+        Due.ruleFault("claim 1;".repeat(12) + "|claims", 0);
+        Due.ruleFault("claim 1;".repeat(12) + "|", 0);
     }
 
     /** What a faulty text left open doesn't reach the next one. */
@@ -201,7 +188,8 @@ public final class TextsTest {
 
     /** Whether PERSON 1, who reads LETTER 1 on DAY 5 as the second one, and HAS 3, CLAIMS it by this TEST. */
     private static boolean holds(String test) {
-        DoorLetters x = Due.told("village 6;person 0 0 0;person 37 7 2;letter 63;letter 11", "claim 1 if person=1 and day<3;claim 0",
+        DoorLetters x = Due.told("village 6;person 0 0 0;person 37 7 2;letter 63;letter 11",
+            "claim 1 if person=1 and day<3;claim 0",
             "claim 1 if person = 1 and [" + test + "]");
         x.day();
         x.day();
