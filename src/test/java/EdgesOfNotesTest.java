@@ -308,7 +308,7 @@ public final class EdgesOfNotesTest {
     }
 
     private static void ruledTheFirst() {
-        Due.sentence("34", "the first (none ahead of 0, told as NONE)");
+        Due.sentence("34", "all NOTES are so: how many; the first (none ahead of 0, told as NONE)");
         DoorLetters x = Due.told(TWO, "claim person", "claim person", "claim 0", "claim 0", "claim 0",
             "claim 1 if day = 60 and person = 1");
         x.note(0, 0);
